@@ -20,16 +20,25 @@ public final class FaceTest {
         "public int MerkleLog.take(int)",
         "public int MerkleLog.rootFrom(int,int,int)");
 
+    private static final Check check = new Check();
+
     public static void main(String[] args) {
-        Check check = new Check();
+        check.test("the public face: one class", FaceTest::oneClass);
+        check.test("the public face: the document's members and no others", FaceTest::members);
+        check.finish();
+    }
+
+    private static void oneClass() {
         int kind = MerkleLog.class.getModifiers();
         check.holds("the class is public and final", Modifier.isPublic(kind) && Modifier.isFinal(kind));
         check.holds("the class extends Object alone", MerkleLog.class.getSuperclass() == Object.class);
         check.holds("the class implements nothing", MerkleLog.class.getInterfaces().length == 0);
         check.holds("no class is nested", MerkleLog.class.getDeclaredClasses().length == 0);
+    }
+
+    private static void members() {
         Set<String> seen = seenFromOutside();
         check.holds("the face " + seen + " is the document's " + new TreeSet<>(FACE), seen.equals(FACE));
-        check.finish();
     }
 
     private static Set<String> seenFromOutside() {

@@ -16,6 +16,11 @@ public final class LongRunsTest {
     }
 
     public static void main(String[] args) {
+        check.test("promises 1 to 11: long mixed runs", LongRunsTest::everyRun);
+        check.finish();
+    }
+
+    private static void everyRun() {
         for (int run = 0; run < RUNS; run++) {
             LongRunsTest one = new LongRunsTest(run);
             // Appends that are rare in some runs keep the log small there for long.
@@ -24,7 +29,6 @@ public final class LongRunsTest {
                 one.call("run " + run + ", call " + call + ": ", appendWeight);
             }
         }
-        check.finish();
     }
 
     private int draw() {
