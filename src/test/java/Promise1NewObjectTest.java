@@ -53,10 +53,15 @@ public final class Promise1NewObjectTest {
         used.path(2, 5);
         check.hand("beside a used one", other);
         check.log("beside a used one", other, 0);
-        check.due("beside a used one: append(7)", other.append(7), 1);
+        for (int number = 1; number <= 40; number++) {
+            check.due("beside a used one: append(7)", other.append(7), number);
+        }
         check.due("beside a used one: root(1)", other.root(1), Model.leaf(7));
+        Sample.fillHand(other, 16);
+        check.hand("used, beside a full one", used, Sample.wholePath(2, 5));
+        check.hand("full, beside a used one", other, Sample.filledHand(16));
         other.drop();
-        check.stands("used, beside another", used, 5, Sample.wholePath(2, 5));
+        check.stands("used, beside a dropped one", used, 5, Sample.wholePath(2, 5));
     }
 
     private static void lastCall() {
